@@ -1,0 +1,32 @@
+/** Counts and prints the answers of a test that are not as due. */
+final class Due {
+    private int asked = 0;
+    private int wrong = 0;
+
+    void same(String call, long got, long want) {
+        asked++;
+        if (got != want) {
+            wrong++;
+            System.out.println(call + " answered " + got + ", due is " + want);
+        }
+    }
+
+    void same(String call, boolean got, boolean want) {
+        asked++;
+        if (got != want) {
+            wrong++;
+            System.out.println(call + " answered " + got + ", due is " + want);
+        }
+    }
+
+    int wrong() {
+        return wrong;
+    }
+
+    void end() {
+        System.out.println(asked + " answers, " + wrong + " not as due");
+        if (wrong != 0 || asked == 0) {
+            System.exit(1);
+        }
+    }
+}
