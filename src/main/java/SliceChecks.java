@@ -16,8 +16,8 @@ public final class SliceChecks {
     private static final int BYTE_VALUES = 256;
     private static final int MOST_BYTES = 5000;
     private static final int ROW_WORDS = MOST_BYTES / WORD_BYTES;
-    /** Behind the longest row, room for up to 64 bits 0 and for the word that an addition may touch. */
-    private static final int DIVIDEND_WORDS = ROW_WORDS + 2;
+    /** The longest row fills its words to the end, so one word more holds the up to 64 bits 0. */
+    private static final int DIVIDEND_WORDS = ROW_WORDS + 1;
     private static final int MOST_ZEROS = 1_000_000;
     private static final int LONGEST_ROUND = 4096;
     /** Eight bits for each of 2,147,483,647 bytes are less than 2 to the 34th. */
@@ -313,7 +313,7 @@ public final class SliceChecks {
         }
     }
 
-    /** Halves, quarters and single bits change places in all eight bytes at once. */
+    /** In all eight bytes at once: halves change places, then pairs of bits, then single bits. */
     private static long bytesTurned(long word) {
         long halves = (word & 0x0F0F0F0F0F0F0F0FL) << 4 | word >>> 4 & 0x0F0F0F0F0F0F0F0FL;
         long pairs = (halves & 0x3333333333333333L) << 2 | halves >>> 2 & 0x3333333333333333L;
@@ -353,8 +353,8 @@ public final class SliceChecks {
     }
 
     private long byDividing() {
-        Arrays.fill(dividend, 0L);
         System.arraycopy(row, 0, dividend, 0, ROW_WORDS);
+        dividend[ROW_WORDS] = 0L;
         dividend[0] ^= atTop(first);
         int places = bitsOfRow();
         for (int place = 0; place < places; place++) {

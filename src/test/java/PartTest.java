@@ -51,6 +51,8 @@ final class PartTest {
 
     private static void noneSuch(Due due) {
         SliceChecks x = fedObject();
+        // A kind in which a row of no bytes has another check than 0.
+        x.kind(16, 0x1021, 0x1234, false, false, 0x00FF);
         int min = Integer.MIN_VALUE;
         int max = Integer.MAX_VALUE;
         int[][] wrong = {
