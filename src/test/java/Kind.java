@@ -53,18 +53,4 @@ record Kind(int width, long polynomial, long first, boolean in, boolean out, lon
         return new Kind(width, source.nextLong(), source.nextLong(), source.nextBoolean(),
                 source.nextBoolean(), source.nextLong(), 0L);
     }
-
-    boolean giveTo(SliceChecks x) {
-        return x.kind(width, polynomial, first, in, out, last);
-    }
-
-    boolean giveTo(SlowChecks x) {
-        return x.kind(width, polynomial, first, in, out, last);
-    }
-
-    static void feed(SliceChecks x, String text) {
-        for (int i = 0; i < text.length(); i++) {
-            x.feed(text.charAt(i), 1);
-        }
-    }
 }

@@ -1,67 +1,116 @@
 /** Promise 2. */
 final class KindTest {
-    private static final int[] NO_WIDTHS = {0, -1, 65, 128, Integer.MAX_VALUE, Integer.MIN_VALUE};
+    private static final long CHECK_OF_0 = 0xC700;
+    private static final int[] TOO_SMALL = {0, -1, -32, -64, Integer.MIN_VALUE};
+    private static final int[] TOO_LARGE = {65, 66, 96, 128, 256 + 32, Integer.MAX_VALUE};
 
     public static void main(String[] args) {
         Due due = new Due();
         everyWidthIsTaken(due);
-        noSuchWidthChangesNothing(due);
-        bytesStay(due);
+        noSuchWidth(due, "False: no such width (too small)", TOO_SMALL);
+        noSuchWidth(due, "False: no such width (too large)", TOO_LARGE);
+        refusedWithNoBytes(due);
+        anotherKind(due);
+        noBytesStayNone(due);
+        fullRowStays(due);
         lowerBitsCount(due);
         due.end();
     }
 
     private static void everyWidthIsTaken(Due due) {
-        SliceChecks x = new SliceChecks();
+        due.sentence("a width w (1 .. 64)");
+        Run x = new Run(due);
         for (int width = 1; width <= 64; width++) {
-            due.same("kind of width " + width, x.kind(width, 1, 0, false, true, 0), true);
-            due.same("count(1)", x.count(1), width);
-            due.same("count(2)", x.count(2), 0);
-            due.same("count(3)", x.count(3), 1);
+            x.due(x.kind(width, 1, 0, false, true, 0), true);
+            x.due(x.count(1), width);
+            x.due(x.count(2), 0);
+            x.due(x.count(3), 1);
         }
     }
 
-    private static void noSuchWidthChangesNothing(Due due) {
-        SliceChecks x = new SliceChecks();
-        Kind.feed(x, Kind.DIGITS);
-        for (int width : NO_WIDTHS) {
-            due.same("kind of width " + width, x.kind(width, 7, 0, false, false, 0), false);
-            due.same("count(0)", x.count(0), 9);
-            due.same("count(1)", x.count(1), 32);
-            due.same("count(2)", x.count(2), 1);
-            due.same("count(3)", x.count(3), 1);
-            due.same("told(0)", x.told(0), 0x04C11DB7L);
-            due.same("told(1)", x.told(1), 0xFFFFFFFFL);
-            due.same("told(2)", x.told(2), 0xFFFFFFFFL);
-            for (int way = 0; way < 4; way++) {
-                due.same("check(" + way + ")", x.check(way), 0xCBF43926L);
-            }
+    /** Nothing of a kind that is refused may stay behind. */
+    private static void noSuchWidth(Due due, String sentence, int[] widths) {
+        due.sentence(sentence);
+        for (int width : widths) {
+            Run x = new Run(due);
+            x.kind(16, 0x1021, 0x1234, true, false, 0x00FF);
+            x.feed(Kind.DIGITS);
+            long check = x.check(0);
+            x.due(x.kind(width, 7, 8, false, true, 9), false);
+            x.due(x.count(0), 9);
+            x.due(x.count(1), 16);
+            x.due(x.count(2), 1);
+            x.due(x.count(3), 0);
+            x.due(x.told(0), 0x1021);
+            x.due(x.told(1), 0x1234);
+            x.due(x.told(2), 0x00FF);
+            x.checks(check);
+            x.due(x.part(0, 9), check);
+            x.due(x.entry(0, 128), 0x1021);
+            // With IN still, the digit 1 becomes 0 by its bit 0.
+            x.due(x.flip(0), true);
+            x.due(x.part(0, 1), CHECK_OF_0);
         }
     }
 
-    private static void bytesStay(Due due) {
-        SliceChecks x = new SliceChecks();
-        Kind.feed(x, Kind.DIGITS);
+    private static void refusedWithNoBytes(Due due) {
+        due.sentence("False: no such width (no bytes)");
+        Run x = new Run(due);
+        x.due(x.kind(0, 0, 0, false, false, 0), false);
+        x.due(x.kind(65, 0, 0, false, false, 0), false);
+        x.feed(Kind.DIGITS);
+        x.checks(0xCBF43926L);
+    }
+
+    private static void anotherKind(Due due) {
+        due.sentence("another kind; bytes stay");
+        Run x = new Run(due);
+        x.feed(Kind.DIGITS);
         for (Kind kind : Kind.PUBLISHED) {
-            due.same("kind " + kind, kind.giveTo(x), true);
-            due.same("count(0)", x.count(0), 9);
-            due.same("check(0) with " + kind, x.check(0), kind.check());
+            x.due(x.kind(kind), true);
+            x.due(x.count(0), 9);
+            x.checks(kind.check());
+            x.due(x.kind(kind), true);
+            x.due(x.check(0), kind.check());
         }
+    }
+
+    private static void noBytesStayNone(Due due) {
+        due.sentence("bytes stay (none)");
+        Run x = new Run(due);
+        x.due(x.kind(8, 7, 0x12, false, false, 0), true);
+        x.due(x.count(0), 0);
+        x.checks(0x12);
+        x.due(x.kind(64, 0x1B, -1, true, true, 0), true);
+        x.due(x.count(0), 0);
+        x.checks(-1);
+    }
+
+    private static void fullRowStays(Due due) {
+        due.sentence("bytes stay (5,000)");
+        Run x = new Run(due);
+        x.feed(65, 5000);
+        x.due(x.kind(16, 0x1021, 0, false, false, 0), true);
+        x.due(x.count(0), 5000);
+        x.due(x.feed(0, 1), false);
+        x.checks(x.part(0, 5000));
+        x.due(x.kind(32, 0x04C11DB7L, -1, true, true, -1), true);
+        x.due(x.count(0), 5000);
+        x.checks(0x131A7BBEL);
     }
 
     private static void lowerBitsCount(Due due) {
-        SliceChecks x = new SliceChecks();
-        Kind.feed(x, Kind.DIGITS);
+        due.sentence("of the numbers the lower w bits count");
         for (Kind kind : Kind.PUBLISHED) {
             long above = kind.width() == 64 ? 0 : -1L << kind.width();
+            Run x = new Run(due);
+            x.feed(Kind.DIGITS);
             x.kind(kind.width(), kind.polynomial() ^ above, kind.first() ^ above, kind.in(),
                     kind.out(), kind.last() ^ above);
-            for (int way = 0; way < 4; way++) {
-                due.same("check(" + way + ") with " + kind, x.check(way), kind.check());
-            }
-            due.same("told(0) with " + kind, x.told(0), kind.polynomial());
-            due.same("told(1) with " + kind, x.told(1), kind.first());
-            due.same("told(2) with " + kind, x.told(2), kind.last());
+            x.checks(kind.check());
+            x.due(x.told(0), kind.polynomial());
+            x.due(x.told(1), kind.first());
+            x.due(x.told(2), kind.last());
         }
     }
 }

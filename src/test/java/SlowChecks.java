@@ -1,11 +1,10 @@
-import java.math.BigInteger;
 import java.util.ArrayList;
+import java.util.Arrays;
 import java.util.List;
 
 /**
  * The document once more, as slowly and as near to its words as can be, for the tests to compare
- * with: a register is a row of single bits, its highest first, and dividing is done on numbers
- * without bound.
+ * with: a register is a row of single bits, its highest first, and so is the number that is divided.
  */
 final class SlowChecks {
     private final List<Integer> row = new ArrayList<>();
@@ -219,27 +218,32 @@ final class SlowChecks {
     }
 
     private long divided() {
-        int length = 8 * row.size() + width;
-        BigInteger left = BigInteger.ZERO;
-        for (int b : row) {
-            int coming = in ? Integer.reverse(b) >>> 24 : b;
-            left = left.shiftLeft(8).or(BigInteger.valueOf(coming));
+        int bits = 8 * row.size();
+        boolean[] left = new boolean[bits + width];
+        for (int i = 0; i < bits; i++) {
+            int place = in ? i % 8 : 7 - i % 8;
+            left[i] = (row.get(i / 8) >> place & 1) == 1;
         }
-        left = left.shiftLeft(width).xor(big(first).shiftLeft(length - width));
-        BigInteger divisor = BigInteger.ONE.shiftLeft(width).or(big(polynomial));
-        for (int place = length - 1; place >= width; place--) {
-            if (left.testBit(place)) {
-                left = left.xor(divisor.shiftLeft(place - width));
+        add(first, left, 0);
+        for (int i = 0; i < bits; i++) {
+            if (left[i]) {
+                left[i] = false;
+                add(polynomial, left, i + 1);
             }
         }
-        return finished(bits(left.longValue()));
+        return finished(Arrays.copyOfRange(left, bits, bits + width));
     }
 
-    private static BigInteger big(boolean[] bits) {
-        BigInteger answer = BigInteger.ZERO;
-        for (boolean bit : bits) {
-            answer = answer.shiftLeft(1).or(bit ? BigInteger.ONE : BigInteger.ZERO);
+    private static void add(boolean[] addend, boolean[] row, int from) {
+        for (int i = 0; i < addend.length; i++) {
+            row[from + i] ^= addend[i];
         }
-        return answer;
+    }
+
+    @Override
+    public String toString() {
+        return row.size() + " bytes, width " + width + ", polynomial " + Long.toHexString(number(polynomial))
+                + ", FIRST " + Long.toHexString(number(first)) + ", LAST " + Long.toHexString(number(last))
+                + (in ? ", IN" : "") + (out ? ", OUT" : "");
     }
 }
