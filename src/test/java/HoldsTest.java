@@ -1,13 +1,17 @@
+import java.lang.reflect.Field;
 import java.util.Random;
 
 /**
  * Promise 12: the theorem is true of every row and kind, so False is always wrong. That the checks
- * of both parts joined are the row's is asked here once more from outside, cut by cut.
+ * of both parts joined are the row's is asked here once more from outside, cut by cut. What holds
+ * looks at can be seen only in objects that were broken on purpose.
  */
 final class HoldsTest {
     private static final int[] CUTS = {0, 7, 14, 21, 28, 35, 42, 49, 56, 63, 70};
+    private static final int[] NO_CUTS = {1, 6, 8, 13, 15, 20, 69, 71, 77, 84};
+    private static final int BYTES_TO_BREAK = 88;
 
-    public static void main(String[] args) {
+    public static void main(String[] args) throws ReflectiveOperationException {
         Due due = new Due();
         noBytes(due);
         everyLengthAroundTheCuts(due);
@@ -16,6 +20,8 @@ final class HoldsTest {
         fullRow(due);
         behindFlips(due);
         nothingChanges(due);
+        brokenTables(due);
+        brokenWays(due);
         due.end();
     }
 
@@ -110,5 +116,77 @@ final class HoldsTest {
         x.holds();
         x.due(x.count(0), 9);
         x.checks(0xCBF43926L);
+    }
+
+    private static SliceChecks toBreak() {
+        SliceChecks x = new SliceChecks();
+        for (int i = 0; i < BYTES_TO_BREAK; i++) {
+            x.feed(i * i * 7 + i * 13 & 255, 1);
+        }
+        return x;
+    }
+
+    private static boolean waysAgree(SliceChecks x) {
+        long whole = x.check(0);
+        return x.check(1) == whole && x.check(2) == whole && x.check(3) == whole;
+    }
+
+    private static boolean cutFails(SliceChecks x, int cut) {
+        int behind = BYTES_TO_BREAK - cut;
+        return x.joined(x.part(0, cut), x.part(cut, BYTES_TO_BREAK), behind) != x.check(0);
+    }
+
+    /**
+     * One number of the tables is made wrong, each in turn. Some are used for the parts of one cut
+     * alone, so that each cut but that behind 0, whose parts are no others than the row, is once
+     * all that fails; and where one that is none of these fails, holds must not see it.
+     */
+    private static void brokenTables(Due due) throws ReflectiveOperationException {
+        due.sentence("behind 0, 7, .. up to 70 bytes: these cuts and no others");
+        boolean[] decided = new boolean[BYTES_TO_BREAK];
+        int numbers = ((long[]) field("slices").get(toBreak())).length;
+        for (int i = 0; i < numbers; i++) {
+            SliceChecks x = toBreak();
+            ((long[]) field("slices").get(x))[i] ^= Long.MIN_VALUE;
+            boolean agree = waysAgree(x);
+            int failing = 0;
+            for (int cut : CUTS) {
+                failing += cutFails(x, cut) ? 1 : 0;
+            }
+            due.same("holds() with number " + i + " wrong", x.holds(), agree && failing == 0);
+            if (agree && failing <= 1) {
+                noteFailing(x, failing == 1 ? CUTS : NO_CUTS, decided);
+            }
+        }
+        for (int cut = 7; cut <= 70; cut += 7) {
+            due.same("the cut behind " + cut + " alone made holds() False", decided[cut], true);
+        }
+        for (int cut : NO_CUTS) {
+            due.same("the cut behind " + cut + " did not", decided[cut], true);
+        }
+    }
+
+    private static void noteFailing(SliceChecks x, int[] cuts, boolean[] decided) {
+        for (int cut : cuts) {
+            decided[cut] |= cutFails(x, cut);
+        }
+    }
+
+    private static void brokenWays(Due due) throws ReflectiveOperationException {
+        due.sentence("whether all four ways give one check");
+        SliceChecks bits = toBreak();
+        field("topPolynomial").setLong(bits, field("topPolynomial").getLong(bits) ^ Long.MIN_VALUE);
+        due.same("ways 0 and 3 unlike 1 and 2", bits.check(0) != bits.check(1), true);
+        due.same("holds() with ways 0 and 3 broken", bits.holds(), false);
+        SliceChecks divided = toBreak();
+        ((long[]) field("row").get(divided))[BYTES_TO_BREAK / 8] = Long.MIN_VALUE;
+        due.same("way 3 unlike 0", divided.check(3) != divided.check(0), true);
+        due.same("holds() with way 3 broken", divided.holds(), false);
+    }
+
+    private static Field field(String name) throws ReflectiveOperationException {
+        Field field = SliceChecks.class.getDeclaredField(name);
+        field.setAccessible(true);
+        return field;
     }
 }
